@@ -1,0 +1,69 @@
+/** Promise 21: way. */
+final class WayTest {
+    public static void main(String[] args) {
+        waysOfKnownPositions();
+        waysAreLeastPairings();
+        whoDoesNotPlay();
+        noSuchPlayer();
+        Check.end();
+    }
+
+    private static void waysOfKnownPositions() {
+        HopperCourt court = Games.at(9, new int[0]);
+        Check.due("way(0) at the beginning", court.way(0), 120);
+        Games.play(court, 6, 14);
+        Check.due("way(0) after a step", court.way(0), 119);
+        Check.due("way(3) after a step of the other", court.way(3), 120);
+        Games.play(court, 115, 102);
+        Check.due("way(3) after a hop", court.way(3), 118);
+        Check.due("way(0) with one at the top and nine there", Games.at(9, Games.SHUT_IN).way(0), 16);
+        HopperCourt exchanged = Games.at(11, Games.EXCHANGED);
+        Check.due("way(0), of 0 and 3 who exchanged one", exchanged.way(0), 110);
+        Check.due("way(3), of 0 and 3 who exchanged one", exchanged.way(3), 110);
+    }
+
+    private static void waysAreLeastPairings() {
+        int[][] games = {Games.SHUT_IN, Games.CROSSED_CHAINS, Games.OUT_AND_IN, Games.TWO_CHAINS};
+        for (int[] game : games) {
+            HopperCourt court = Games.at(9, new int[0]);
+            PlainCourt plain = new PlainCourt();
+            plain.begin(9);
+            for (int i = 0; i < game.length; i += 2) {
+                Games.play(court, game[i], game[i + 1]);
+                plain.move(game[i], game[i + 1]);
+                Check.due("way(0) after move " + i / 2, court.way(0), plain.way(0));
+                Check.due("way(3) after move " + i / 2, court.way(3), plain.way(3));
+            }
+        }
+    }
+
+    private static void whoDoesNotPlay() {
+        for (int set = 0; set < 64; set++) {
+            if (Integer.bitCount(set) < 2) {
+                continue;
+            }
+            HopperCourt court = Games.at(set, new int[0]);
+            for (int player = 0; player < 6; player++) {
+                boolean plays = (set & 1 << player) != 0;
+                Check.due("begin(" + set + "): way(" + player + ")", court.way(player), plays ? 120 : -1);
+            }
+        }
+        HopperCourt done = Games.at(11, Games.EXCHANGED);
+        done.setFill(1);
+        Games.play(done, 20, 18);
+        Check.due("way(0) of one who has finished", done.way(0), 110);
+        HopperCourt out = new HopperCourt();
+        out.setPatience(1);
+        out.begin(3);
+        Games.play(out, 6, 14, 20, 18);
+        Check.due("way(0) of one who is out", out.way(0), 119);
+    }
+
+    private static void noSuchPlayer() {
+        for (HopperCourt court : new HopperCourt[] {new HopperCourt(), Games.at(9, new int[0])}) {
+            for (int player : new int[] {-1, 6, 7, 32, Integer.MIN_VALUE, Integer.MAX_VALUE}) {
+                Check.throwsBounds("way(" + player + ")", () -> court.way(player));
+            }
+        }
+    }
+}
