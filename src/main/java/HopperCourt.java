@@ -200,7 +200,7 @@ public final class HopperCourt {
         if (!isCamp(player)) {
             throw new IndexOutOfBoundsException("no such player");
         }
-        return seats.hasLeft(player);
+        return seats.hasDroppedOut(player);
     }
 
     public int way(int player) throws IndexOutOfBoundsException {
@@ -481,6 +481,9 @@ public final class HopperCourt {
             for (int cell = 0; cell < CELLS; cell++) {
                 level[cell] = NONE;
             }
+            if (!isCell(start)) {
+                return;
+            }
             level[start] = 0;
             queue[0] = start;
             int known = 1;
@@ -679,7 +682,7 @@ public final class HopperCourt {
             return isCamp(player) && (playing >> player & 1) == 1;
         }
 
-        boolean hasLeft(int player) {
+        boolean hasDroppedOut(int player) {
             return isCamp(player) && (out >> player & 1) == 1;
         }
 
@@ -730,7 +733,7 @@ public final class HopperCourt {
         }
 
         private boolean isStillIn(int player) {
-            return plays(player) && !hasLeft(player) && !isPlaced(player);
+            return plays(player) && !hasDroppedOut(player) && !isPlaced(player);
         }
 
         private boolean isPlaced(int player) {

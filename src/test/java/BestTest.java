@@ -25,10 +25,7 @@ final class BestTest {
     }
 
     private static void gameOver() {
-        HopperCourt court = new HopperCourt();
-        court.setPatience(1);
-        court.begin(3);
-        Games.play(court, 6, 14, 20, 18);
+        HopperCourt court = Games.over();
         known("when the game is over", court, -1, -1);
     }
 

@@ -52,10 +52,7 @@ final class ChainTest {
         Check.due("chainAt(3, 16, 0)", goal.chainAt(3, 16, 0), -1);
         HopperCourt back = Games.at(9, Games.CROSSED_CHAINS);
         Check.due("hops(42, 42), back to where it began", back.hops(42, 42), -1);
-        HopperCourt over = new HopperCourt();
-        over.setPatience(1);
-        over.begin(3);
-        Games.play(over, 6, 14, 20, 18);
+        HopperCourt over = Games.over();
         Check.due("hops(7, 15) when the game is over", over.hops(7, 15), -1);
         Check.due("chainAt(3, 15, 0) when the game is over", over.chainAt(3, 15, 0), -1);
     }

@@ -72,10 +72,7 @@ final class EndsTest {
         Games.play(court, 6, 14);
         ends("now on turn", court, 114, 105, 106);
         ends("no more on turn", court, 14);
-        HopperCourt over = new HopperCourt();
-        over.setPatience(1);
-        over.begin(3);
-        Games.play(over, 6, 14, 20, 18);
+        HopperCourt over = Games.over();
         for (int from = 0; from < 121; from++) {
             Check.due("ends(" + from + ") when it is over", over.ends(from), 0);
         }

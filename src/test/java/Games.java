@@ -53,6 +53,15 @@ final class Games {
         return court;
     }
 
+    /** Players 0 and 1 with patience 1: a move each, and both are out. */
+    static HopperCourt over() {
+        HopperCourt court = new HopperCourt();
+        court.setPatience(1);
+        court.begin(3);
+        play(court, 6, 14, 20, 18);
+        return court;
+    }
+
     static void play(HopperCourt court, int... pairs) {
         for (int i = 0; i + 1 < pairs.length; i += 2) {
             court.move(pairs[i], pairs[i + 1]);

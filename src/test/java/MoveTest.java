@@ -78,10 +78,7 @@ final class MoveTest {
 
     private static void exceptionsInTheirOrder() {
         int[] wrong = {-1, 121, Integer.MIN_VALUE, Integer.MAX_VALUE};
-        HopperCourt over = new HopperCourt();
-        over.setPatience(1);
-        over.begin(3);
-        Games.play(over, 6, 14, 20, 18);
+        HopperCourt over = Games.over();
         HopperCourt open = Games.at(9, new int[0]);
         HopperCourt none = new HopperCourt();
         for (HopperCourt court : new HopperCourt[] {over, open, none}) {

@@ -85,10 +85,7 @@ final class PassTest {
     }
 
     private static void refusedWhenTheGameIsOver() {
-        HopperCourt court = new HopperCourt();
-        court.setPatience(1);
-        court.begin(3);
-        Games.play(court, 6, 14, 20, 18);
+        HopperCourt court = Games.over();
         String before = Games.picture(court);
         Check.throwsState("pass() when the game is over", pass(court));
         Check.due("the game after a refused pass", Games.picture(court), before);

@@ -57,10 +57,7 @@ final class UndoTest {
     }
 
     private static void aGameThatIsOverGoesOn() {
-        HopperCourt court = new HopperCourt();
-        court.setPatience(1);
-        court.begin(3);
-        Games.play(court, 6, 14, 20, 18);
+        HopperCourt court = Games.over();
         Check.due("turn() when it is over", court.turn(), -1);
         Check.due("undo()", court.undo(), 1);
         Check.due("turn()", court.turn(), 1);

@@ -52,10 +52,7 @@ final class WayTest {
         done.setFill(1);
         Games.play(done, 20, 18);
         Check.due("way(0) of one who has finished", done.way(0), 110);
-        HopperCourt out = new HopperCourt();
-        out.setPatience(1);
-        out.begin(3);
-        Games.play(out, 6, 14, 20, 18);
+        HopperCourt out = Games.over();
         Check.due("way(0) of one who is out", out.way(0), 119);
     }
 
