@@ -109,7 +109,7 @@ public final class HopperCourt {
     }
 
     public int cellAt(int row, int column) {
-        return Star.cell(row, column);
+        return Star.cellIn(row, column);
     }
 
     public int campOf(int cell) throws IndexOutOfBoundsException {
@@ -289,15 +289,15 @@ public final class HopperCourt {
                     rows[cell] = row;
                     columns[cell] = column;
                     camps[cell] = campAmong(row, column);
-                    for (int way = 0; way < DIRECTIONS; way++) {
-                        nexts[cell * DIRECTIONS + way] =
-                                cell(row + ROW_STEP[way], column + COLUMN_STEP[way]);
+                    for (int d = 0; d < DIRECTIONS; d++) {
+                        nexts[cell * DIRECTIONS + d] =
+                                cellIn(row + ROW_STEP[d], column + COLUMN_STEP[d]);
                     }
                 }
             }
         }
 
-        static int cell(int row, int column) {
+        static int cellIn(int row, int column) {
             if (row < 0 || row >= ROWS) {
                 return NONE;
             }
@@ -419,8 +419,8 @@ public final class HopperCourt {
                 boolean isEnd = level[to] > 0 && mayEnd(player, from, to);
                 hopsToEnd[to] = isEnd ? level[to] : NONE;
             }
-            for (int way = 0; way < Star.DIRECTIONS; way++) {
-                int to = star.next(from, way);
+            for (int d = 0; d < Star.DIRECTIONS; d++) {
+                int to = star.next(from, d);
                 if (marbles.isEmpty(to) && mayEnd(player, from, to)) {
                     hopsToEnd[to] = 0;
                 }
@@ -466,8 +466,8 @@ public final class HopperCourt {
 
         private int lowestNearer(int cell, int began) {
             int lowest = NONE;
-            for (int way = 0; way < Star.DIRECTIONS; way++) {
-                int behind = landing(cell, way, began);
+            for (int d = 0; d < Star.DIRECTIONS; d++) {
+                int behind = landing(cell, d, began);
                 boolean isNearer = behind != NONE && level[behind] == level[cell] - 1;
                 if (isNearer && (lowest == NONE || behind < lowest)) {
                     lowest = behind;
@@ -489,8 +489,8 @@ public final class HopperCourt {
             int known = 1;
             for (int done = 0; done < known && done < CELLS; done++) {
                 int cell = queue[done];
-                for (int way = 0; way < Star.DIRECTIONS; way++) {
-                    int behind = landing(cell, way, began);
+                for (int d = 0; d < Star.DIRECTIONS; d++) {
+                    int behind = landing(cell, d, began);
                     if (behind != NONE && level[behind] == NONE && known < CELLS) {
                         level[behind] = level[cell] + 1;
                         queue[known] = behind;
