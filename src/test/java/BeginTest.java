@@ -14,6 +14,10 @@ final class BeginTest {
             isRefused(set);
         }
         aNewGameForgetsTheOldOne();
+        oneCampIsTooFewTwoAreEnough();
+        sixCampsAreAllASeventhIsNone();
+        aGameThatIsOverIsBegunAgain();
+        theFirstOnTurnIsNotOut();
         fillAndPatienceStay();
         Check.end();
     }
@@ -85,5 +89,48 @@ final class BeginTest {
         court.begin(9);
         Check.due("setFill(5) after begin", court.setFill(5), 4);
         Check.due("setPatience(8) after begin", court.setPatience(8), 7);
+    }
+
+    private static void oneCampIsTooFewTwoAreEnough() {
+        isRefused(0);
+        for (int camp = 0; camp < 6; camp++) {
+            isRefused(1 << camp);
+            for (int other = camp + 1; other < 6; other++) {
+                int set = 1 << camp | 1 << other;
+                HopperCourt court = new HopperCourt();
+                Check.due("begin(" + set + ")", Check.outcome(begin(court, set)), "0");
+                Check.due("turn() after begin(" + set + ")", court.turn(), camp);
+            }
+        }
+    }
+
+    private static void sixCampsAreAllASeventhIsNone() {
+        HopperCourt court = new HopperCourt();
+        Check.due("begin(63)", Check.outcome(begin(court, 63)), "0");
+        Check.due("begin(3), the least set", Check.outcome(begin(court, 3)), "0");
+        for (int bit = 6; bit < 32; bit++) {
+            isRefused(1 << bit);
+            isRefused(1 << bit | 1);
+            isRefused(1 << bit | 3);
+            isRefused(1 << bit | 63);
+        }
+    }
+
+    private static void aGameThatIsOverIsBegunAgain() {
+        HopperCourt court = Games.over();
+        court.begin(3);
+        Check.due("turn()", court.turn(), 0);
+        Check.due("isOut(0)", court.isOut(0), false);
+        Check.due("isOut(1)", court.isOut(1), false);
+        Check.due("made()", court.made(), 0);
+        Check.due("move(6, 14)", court.move(6, 14), 0);
+    }
+
+    private static void theFirstOnTurnIsNotOut() {
+        HopperCourt court = new HopperCourt();
+        court.setPatience(1);
+        court.begin(48);
+        Check.due("turn() with patience 1", court.turn(), 4);
+        Check.due("isOut(4) with patience 1", court.isOut(4), false);
     }
 }

@@ -9,6 +9,10 @@ final class ChainTest {
         chain(Games.at(9, Games.CROSSED_CHAINS), 42, 4, 19, 17, 4);
         chain(Games.at(11, Games.THROUGH_A_CAMP), 5, 43, 18, 20, 43);
         chain(Games.at(9, Games.OUT_AND_IN), 3, 0, 16, 5, 0);
+        noQueryIsNeededBefore();
+        lowerCellsComeFirst();
+        theFirstAndTheLastHop();
+        theFirstAndTheLastCell();
         noMoves();
         queriesChangeNothing();
         noSuchCell();
@@ -77,5 +81,50 @@ final class ChainTest {
             }
             Check.throwsBounds("chainAt(0, 0, -1)", () -> court.chainAt(0, 0, -1));
         }
+    }
+
+    private static void noQueryIsNeededBefore() {
+        Check.due("chainAt(3, 14, 0)", Games.at(9, new int[0]).chainAt(3, 14, 0), 14);
+        Check.due("chainAt(42, 4, 1)", Games.at(9, Games.CROSSED_CHAINS).chainAt(42, 4, 1), 17);
+        HopperCourt court = Games.at(9, new int[0]);
+        court.ends(0);
+        Check.due("chainAt(3, 14, 0) after ends(0)", court.chainAt(3, 14, 0), 14);
+        court.hops(6, 14);
+        Check.due("chainAt(3, 16, 0) after hops(6, 14)", court.chainAt(3, 16, 0), 16);
+        court.hops(3, 14);
+        Check.due("chainAt(6, 14, 0) after hops(3, 14)", court.chainAt(6, 14, 0), -1);
+    }
+
+    /** From 0 to 16 there are two chains of two hops; the other one, over 5, is longer by no hop. */
+    private static void lowerCellsComeFirst() {
+        HopperCourt court = Games.at(9, Games.TWO_CHAINS);
+        Check.due("at(3), behind the lower first hop", court.at(3), -1);
+        Check.due("at(5), behind the higher first hop", court.at(5), -1);
+        Check.due("chainAt(0, 16, 0)", court.chainAt(0, 16, 0), 3);
+        HopperCourt crossed = Games.at(9, Games.CROSSED_CHAINS);
+        Check.due("chainAt(42, 4, 0)", crossed.chainAt(42, 4, 0), 19);
+        Check.due("chainAt(42, 4, 1)", crossed.chainAt(42, 4, 1), 17);
+    }
+
+    private static void theFirstAndTheLastHop() {
+        HopperCourt court = Games.at(9, Games.CROSSED_CHAINS);
+        Check.throwsBounds("chainAt(42, 4, -1)", () -> court.chainAt(42, 4, -1));
+        Check.due("chainAt(42, 4, 0)", Check.outcome(() -> court.chainAt(42, 4, 0)), "19");
+        Check.due("chainAt(42, 4, 2), the last", Check.outcome(() -> court.chainAt(42, 4, 2)), "4");
+        Check.due("chainAt(42, 4, 3)", Check.outcome(() -> court.chainAt(42, 4, 3)), "-1");
+        Check.due("chainAt(42, 53, 0), a step", Check.outcome(() -> court.chainAt(42, 53, 0)), "-1");
+        Check.throwsBounds("chainAt(42, 53, -1), a step", () -> court.chainAt(42, 53, -1));
+    }
+
+    private static void theFirstAndTheLastCell() {
+        HopperCourt court = Games.at(9, new int[] {6, 14, 115, 102, 14, 6});
+        chain(court, 120, 104, 115, 104);
+        Check.due("hops(0, 120)", court.hops(0, 120), -1);
+        Check.due("hops(120, 0)", court.hops(120, 0), -1);
+        Check.due("chainAt(0, 120, 0)", court.chainAt(0, 120, 0), -1);
+        Games.play(court, 120, 104, 6, 14);
+        chain(court, 104, 120, 115, 120);
+        chain(Games.at(9, Games.TWO_CHAINS), 0, 16, 3, 16);
+        chain(Games.at(9, Games.OUT_AND_IN), 3, 0, 16, 5, 0);
     }
 }

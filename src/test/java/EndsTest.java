@@ -7,6 +7,9 @@ final class EndsTest {
         endsRiseAndAreAllOfThem();
         campsAndTheGoal();
         onlyThePlayerOnTurn();
+        theFirstAndTheLastCell();
+        theFirstAndTheLastEnd();
+        movesOfTheFirstAndTheLastCellCount();
         noSuchCellOrEnd();
         Check.end();
     }
@@ -88,5 +91,46 @@ final class EndsTest {
                         () -> court.endAt(6, cell == 121 ? 2 : cell));
             }
         }
+    }
+
+    private static void theFirstAndTheLastCell() {
+        ends("the top", Games.at(9, Games.TWO_CHAINS), 0, 3, 5, 16);
+        ends("the foot", Games.at(9, new int[] {6, 14, 115, 102, 14, 6}), 120, 104, 115);
+        HopperCourt court = Games.at(9, new int[0]);
+        ends("a marble of player 3", court, 120);
+        for (int cell : new int[] {-1, 121}) {
+            Check.throwsBounds("ends(" + cell + ")", () -> court.ends(cell));
+            Check.throwsBounds("endAt(" + cell + ", 0)", () -> court.endAt(cell, 0));
+        }
+    }
+
+    private static void theFirstAndTheLastEnd() {
+        HopperCourt court = Games.at(9, new int[0]);
+        Check.throwsBounds("endAt(6, -1)", () -> court.endAt(6, -1));
+        Check.due("endAt(6, 0)", Check.outcome(() -> court.endAt(6, 0)), "14");
+        Check.due("endAt(6, 1), the last", Check.outcome(() -> court.endAt(6, 1)), "15");
+        Check.throwsBounds("endAt(6, 2)", () -> court.endAt(6, 2));
+        Check.throwsBounds("endAt(6, 121)", () -> court.endAt(6, 121));
+        Check.throwsBounds("endAt(0, 0), a marble without a move", () -> court.endAt(0, 0));
+        Check.throwsBounds("endAt(60, 0), an empty cell", () -> court.endAt(60, 0));
+        Check.throwsBounds("endAt(114, 0), not on turn", () -> court.endAt(114, 0));
+        HopperCourt over = Games.over();
+        Check.throwsBounds("endAt(7, 0) when it is over", () -> over.endAt(7, 0));
+    }
+
+    /** One move is left to the player on turn, of a marble on 0 or 120. */
+    private static void movesOfTheFirstAndTheLastCellCount() {
+        HopperCourt top = Games.at(9, Games.SHUT_IN);
+        Check.due("moves() of one without a move", top.moves(), 0);
+        top.pass();
+        Games.play(top, 5, 4);
+        Check.due("moves()", top.moves(), 1);
+        ends("the last move", top, 0, 5);
+        HopperCourt foot = Games.at(9, Games.shutInBelow());
+        Check.due("moves() of one without a move", foot.moves(), 0);
+        foot.pass();
+        Games.play(foot, 115, 116);
+        Check.due("moves()", foot.moves(), 1);
+        ends("the last move", foot, 120, 115);
     }
 }

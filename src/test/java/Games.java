@@ -43,6 +43,24 @@ final class Games {
         0, 5, 91, 50, 16, 58, 79, 3, 5, 79
     };
 
+    /**
+     * begin(63): each player has brought one marble into the goal, to the place that its opposite
+     * left for it; all six by their ninth moves, the player 5 by the last of all.
+     */
+    static final int[] SIX_EXCHANGED = {
+        6, 15, 19, 18, 107, 106, 112, 103, 76, 77, 36, 37, 15, 27, 18, 17, 106, 93, 103, 90, 77, 78, 37, 48,
+        27, 38, 17, 16, 93, 81, 90, 67, 78, 68, 48, 49, 38, 59, 16, 15, 81, 80, 67, 57, 68, 50, 49, 69,
+        59, 68, 15, 27, 80, 59, 57, 47, 50, 51, 69, 80, 68, 79, 27, 38, 59, 58, 47, 37, 51, 52, 80, 81,
+        79, 91, 38, 48, 58, 57, 37, 26, 52, 42, 81, 93, 91, 104, 48, 66, 57, 47, 26, 14, 42, 31, 93, 106,
+        104, 112, 66, 76, 47, 36, 14, 6, 31, 19, 106, 107
+    };
+
+    /** begin(9): player 0 has left its camp with all marbles, one of player 3 lies there; 3 is on turn. */
+    static final int[] LEFT_TO_ANOTHER = {
+        3, 14, 114, 106, 0, 16, 119, 94, 4, 15, 116, 82, 5, 18, 94, 71, 7, 29, 82, 61, 6, 26,
+        71, 51, 16, 60, 61, 4, 2, 27, 112, 94, 9, 31, 106, 83, 8, 17, 120, 119, 1, 28
+    };
+
     private Games() {
     }
 
@@ -60,6 +78,42 @@ final class Games {
         court.begin(3);
         play(court, 6, 14, 20, 18);
         return court;
+    }
+
+    /** Players 3 and 0 are out, one marble of 0 lies on 93 in the middle, and 1 plays on alone. */
+    static HopperCourt oneOutAbroad() {
+        HopperCourt court = at(11, EXCHANGED_AND_LEFT);
+        court.undo();
+        play(court, 105, 93);
+        court.setPatience(1);
+        play(court, 62, 71);
+        return court;
+    }
+
+    /**
+     * begin(9): SHUT_IN with the board turned round, so that player 3 has no move. Player 0, which
+     * now begins, needs two steps for what was the first move of 3.
+     */
+    static int[] shutInBelow() {
+        int[] pairs = new int[SHUT_IN.length + 2];
+        System.arraycopy(new int[] {8, 16, 116, 105, 16, 17}, 0, pairs, 0, 6);
+        for (int i = 4; i < SHUT_IN.length; i++) {
+            pairs[i + 2] = 120 - SHUT_IN[i];
+        }
+        return pairs;
+    }
+
+    /** begin(63): 300 moves, 50 of each player, by one marble of each that goes out and home again. */
+    static int[] threeHundred() {
+        int[][] steps = {{6, 14}, {20, 18}, {84, 83}, {114, 106}, {100, 102}, {36, 37}};
+        int[] pairs = new int[600];
+        for (int made = 0; made < 300; made++) {
+            int[] step = steps[made % 6];
+            int back = made / 6 % 2;
+            pairs[2 * made] = step[back];
+            pairs[2 * made + 1] = step[1 - back];
+        }
+        return pairs;
     }
 
     static void play(HopperCourt court, int... pairs) {

@@ -7,7 +7,13 @@ final class MoveTest {
         camps();
         theGoalIsNotLeft();
         exceptionsInTheirOrder();
+        theFirstAndTheLastCell();
+        aRefusedMoveDoesNotCount();
+        aStepIsNoHop();
         threeHundredMoves();
+        theThreeHundredthMoveIsAWholeOne();
+        movesOfOneGameAreCounted();
+        undoneMovesAreNotCounted();
         Check.end();
     }
 
@@ -97,6 +103,46 @@ final class MoveTest {
         Check.throwsState("move(7, 7) in no game", () -> none.move(7, 7));
     }
 
+    /** 0 and 120 are the last cells that either argument may be. */
+    private static void theFirstAndTheLastCell() {
+        Check.due("move(0, 16)", Games.at(9, Games.TWO_CHAINS).move(0, 16), 2);
+        Check.due("move(3, 0)", Games.at(9, Games.OUT_AND_IN).move(3, 0), 3);
+        HopperCourt court = Games.at(9, new int[] {6, 14, 115, 102, 14, 6});
+        Check.due("move(120, 104)", court.move(120, 104), 2);
+        Check.due("at(120)", court.at(120), -1);
+        Games.play(court, 6, 14);
+        Check.due("move(104, 120)", court.move(104, 120), 2);
+        Check.due("at(120)", court.at(120), 3);
+        for (int cell : new int[] {0, 120}) {
+            refuses(Games.at(9, new int[0]), cell, 14, "a cell that there is");
+            refuses(Games.at(9, new int[0]), 6, cell, "a cell that there is");
+        }
+    }
+
+    private static void aRefusedMoveDoesNotCount() {
+        HopperCourt court = new HopperCourt();
+        court.setPatience(2);
+        court.begin(9);
+        Games.play(court, 6, 14);
+        for (int i = 0; i < 3; i++) {
+            Check.throwsArgument("move(114, 114)", () -> court.move(114, 114));
+        }
+        Games.play(court, 114, 106);
+        for (int i = 0; i < 3; i++) {
+            Check.throwsArgument("move(14, 14)", () -> court.move(14, 14));
+        }
+        Games.play(court, 14, 6);
+        Check.due("turn() with one move of 3", court.turn(), 3);
+        Check.due("made()", court.made(), 3);
+    }
+
+    /** A neighbouring empty cell is reached by a step, whatever marbles lie about. */
+    private static void aStepIsNoHop() {
+        HopperCourt court = Games.at(9, Games.CROSSED_CHAINS);
+        Check.due("distance(42, 53)", court.distance(42, 53), 1);
+        Check.due("move(42, 53)", court.move(42, 53), 0);
+    }
+
     private static void threeHundredMoves() {
         HopperCourt court = Games.at(9, new int[0]);
         for (int round = 0; round < 75; round++) {
@@ -118,5 +164,64 @@ final class MoveTest {
         Check.due("undo()", court.undo(), 299);
         Check.due("the 300th move again", court.move(106, 114), 0);
         Check.throwsState("the 301st move", () -> court.move(6, 14));
+    }
+
+    /** It may bring a player to its end, and the turn goes on. */
+    private static void theThreeHundredthMoveIsAWholeOne() {
+        HopperCourt court = Games.at(9, Games.SHUT_IN);
+        for (int round = 0; round < 54; round++) {
+            court.pass();
+            Games.play(court, 48, 58);
+            court.pass();
+            Games.play(court, 58, 48);
+        }
+        court.pass();
+        Games.play(court, 48, 58);
+        court.pass();
+        Check.due("made()", court.made(), 299);
+        Check.due("finished(0)", court.finished(0), -1);
+        court.setFill(9);
+        Check.due("the 300th move", court.move(58, 48), 0);
+        Check.due("made()", court.made(), 300);
+        Check.due("finished(0) after the 300th move", court.finished(0), 0);
+        Check.due("turn() after the 300th move", court.turn(), 3);
+        Check.throwsState("the 301st move", () -> court.move(48, 58));
+        Check.due("undo()", court.undo(), 299);
+        Check.due("finished(0) after undo", court.finished(0), -1);
+        Check.due("turn() after undo", court.turn(), 3);
+    }
+
+    private static void movesOfOneGameAreCounted() {
+        HopperCourt court = new HopperCourt();
+        for (int game = 0; game < 2; game++) {
+            court.begin(9);
+            for (int round = 0; round < 62; round++) {
+                Games.play(court, 6, 14, 114, 106, 14, 6, 106, 114);
+            }
+            Check.due("made() in game " + game, court.made(), 248);
+        }
+        HopperCourt full = Games.at(63, Games.threeHundred());
+        Check.throwsState("the 301st move", () -> full.move(6, 14));
+        full.begin(63);
+        Check.due("made() in a new game", full.made(), 0);
+        Check.due("the first move of a new game", full.move(6, 14), 0);
+        Check.due("made()", full.made(), 1);
+    }
+
+    private static void undoneMovesAreNotCounted() {
+        HopperCourt court = Games.at(9, new int[] {6, 14});
+        for (int i = 0; i < 250; i++) {
+            Games.play(court, 114, 106);
+            court.undo();
+        }
+        Check.due("made()", court.made(), 1);
+        Check.due("turn()", court.turn(), 3);
+        Check.due("move(114, 106)", court.move(114, 106), 0);
+        HopperCourt full = Games.at(63, Games.threeHundred());
+        for (int i = 0; i < 100; i++) {
+            Check.due("undo()", full.undo(), 299);
+            Check.due("the 300th move again", full.move(37, 36), 0);
+        }
+        Check.throwsState("the 301st move", () -> full.move(6, 14));
     }
 }

@@ -2,11 +2,14 @@
 final class PassTest {
     public static void main(String[] args) {
         refusedWhileThereIsAMove();
+        refusedWhileThereIsOneMove();
+        aRefusedPassDoesNotCount();
         onlyTheTurnGoesOn();
         nobodyFinishesByAPass();
         aPassCountsForThePatience();
         refusedWhenTheGameIsOver();
         refusedAfterThreeHundred();
+        theThreeHundredthMayBeAPass();
         Check.end();
     }
 
@@ -25,6 +28,36 @@ final class PassTest {
             Check.throwsState("pass() with moves there", pass(court));
             Check.due("the game after a refused pass", Games.picture(court), before);
         }
+    }
+
+    /** Player 0 has but one move left, the hop of its last marble from 0 to 5. */
+    private static void refusedWhileThereIsOneMove() {
+        HopperCourt court = Games.at(9, Games.SHUT_IN);
+        court.pass();
+        Games.play(court, 5, 4);
+        Check.due("moves()", court.moves(), 1);
+        Check.throwsState("pass() with one move", pass(court));
+        Check.due("made()", court.made(), 82);
+        Check.due("turn()", court.turn(), 0);
+        Check.due("move(0, 5)", court.move(0, 5), 1);
+    }
+
+    private static void aRefusedPassDoesNotCount() {
+        HopperCourt court = new HopperCourt();
+        court.setPatience(2);
+        court.begin(9);
+        Games.play(court, 6, 14, 114, 106);
+        for (int i = 0; i < 3; i++) {
+            Check.throwsState("pass() with moves there", pass(court));
+        }
+        Games.play(court, 14, 6);
+        Check.throwsState("pass() with moves there", pass(court));
+        court.setPatience(3);
+        Games.play(court, 106, 114);
+        Check.due("turn() with two moves of 0", court.turn(), 0);
+        Check.due("made()", court.made(), 4);
+        Check.due("undo(), which finds no pass", court.undo(), 3);
+        Check.due("at(106)", court.at(106), 3);
     }
 
     private static void onlyTheTurnGoesOn() {
@@ -108,5 +141,24 @@ final class PassTest {
         court.undo();
         court.pass();
         Check.due("made() after the 299th, a pass", court.made(), 299);
+    }
+
+    /** Here the player 3 has no move, and comes on turn behind odd numbers of moves. */
+    private static void theThreeHundredthMayBeAPass() {
+        HopperCourt court = Games.at(9, Games.shutInBelow());
+        Check.due("made()", court.made(), 81);
+        for (int made = 81; made < 299; made += 2) {
+            boolean forth = made % 4 == 1;
+            court.pass();
+            Games.play(court, forth ? 72 : 62, forth ? 62 : 72);
+        }
+        Check.due("made()", court.made(), 299);
+        Check.due("the 300th, a pass", Check.outcome(pass(court)), "0");
+        Check.due("made()", court.made(), 300);
+        Check.due("turn()", court.turn(), 0);
+        Check.throwsState("the 301st, a move", () -> court.move(72, 62));
+        Check.due("undo() of a pass", court.undo(), 299);
+        Check.due("turn()", court.turn(), 3);
+        Check.due("the 300th, a pass again", Check.outcome(pass(court)), "0");
     }
 }

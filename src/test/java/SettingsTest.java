@@ -7,6 +7,9 @@ final class SettingsTest {
         patienceReturnsTheOneBefore();
         fillIsLookedAtByTheNextMove();
         patienceIsLookedAtByTheNextTurn();
+        aFillThatIsTakenBackIsNotLookedAt();
+        aPatienceThatIsTakenBackIsNotLookedAt();
+        theLeastAndTheMostThatAreAllowed();
         undoLeavesTheSettings();
         Check.end();
     }
@@ -79,5 +82,41 @@ final class SettingsTest {
         court.undo();
         Check.due("setFill(1) after undo", court.setFill(1), 7);
         Check.due("setPatience(1) after undo", court.setPatience(1), 70);
+    }
+
+    private static void aFillThatIsTakenBackIsNotLookedAt() {
+        HopperCourt court = Games.at(11, Games.EXCHANGED);
+        court.setFill(1);
+        court.setFill(2);
+        Games.play(court, 20, 18);
+        Check.due("finished(0): the fill was 2 at the end of the move", court.finished(0), -1);
+        court.setFill(1);
+        Games.play(court, 113, 104);
+        Check.due("finished(0): the goal of 0 is not full now", court.finished(0), 3);
+        Check.due("finished(1)", court.finished(1), -1);
+    }
+
+    private static void aPatienceThatIsTakenBackIsNotLookedAt() {
+        HopperCourt court = Games.at(9, new int[] {6, 14, 114, 106});
+        court.setPatience(1);
+        court.setPatience(2);
+        Games.play(court, 14, 6);
+        Check.due("turn(): 3 has made 1 move of 2", court.turn(), 3);
+        court.setPatience(1);
+        court.setPatience(0);
+        Games.play(court, 106, 114);
+        Check.due("turn(): nobody is out", court.turn(), 0);
+    }
+
+    private static void theLeastAndTheMostThatAreAllowed() {
+        HopperCourt court = new HopperCourt();
+        Check.throwsArgument("setFill(0)", () -> court.setFill(0));
+        Check.due("setFill(1)", Check.outcome(() -> court.setFill(1)), "10");
+        Check.throwsArgument("setFill(11)", () -> court.setFill(11));
+        Check.due("setFill(10)", Check.outcome(() -> court.setFill(10)), "1");
+        Check.throwsArgument("setPatience(101)", () -> court.setPatience(101));
+        Check.due("setPatience(100)", Check.outcome(() -> court.setPatience(100)), "0");
+        Check.throwsArgument("setPatience(-1)", () -> court.setPatience(-1));
+        Check.due("setPatience(0)", Check.outcome(() -> court.setPatience(0)), "100");
     }
 }

@@ -5,6 +5,9 @@ final class TurnTest {
         finishedPlayersAreLeftOut();
         lonePlayersGoOnAlone();
         whoIsOutIsSkipped();
+        behindTheHighestComesTheLowest();
+        nobodyIsOnTurnInNoGame();
+        madeGoesFromNoneToThreeHundred();
         Check.end();
     }
 
@@ -65,5 +68,47 @@ final class TurnTest {
         Games.play(court, 51, 50);
         Check.due("turn(): 3 and 0 are out", court.turn(), 1);
         Check.due("made()", court.made(), 32);
+    }
+
+    private static void behindTheHighestComesTheLowest() {
+        HopperCourt court = Games.at(33, new int[] {6, 14});
+        Check.due("turn() behind 0", court.turn(), 5);
+        Games.play(court, 36, 37);
+        Check.due("turn() behind 5", court.turn(), 0);
+        HopperCourt upper = Games.at(48, new int[] {100, 102});
+        Check.due("turn() behind 4", upper.turn(), 5);
+        Games.play(upper, 36, 37);
+        Check.due("turn() behind 5, without 0 to 3", upper.turn(), 4);
+    }
+
+    private static void nobodyIsOnTurnInNoGame() {
+        HopperCourt court = new HopperCourt();
+        Check.due("turn() in no game", court.turn(), -1);
+        Check.due("made() in no game", court.made(), 0);
+        court.setFill(1);
+        court.setPatience(1);
+        Check.due("turn() in no game", court.turn(), -1);
+        Check.due("turn() when it is over", Games.over().turn(), -1);
+        Check.due("made() when it is over", Games.over().made(), 2);
+    }
+
+    private static void madeGoesFromNoneToThreeHundred() {
+        HopperCourt court = Games.at(63, new int[0]);
+        int[] pairs = Games.threeHundred();
+        for (int made = 0; made < 300; made++) {
+            if (made < 10 || made > 290) {
+                Check.due("made()", court.made(), made);
+            }
+            court.move(pairs[2 * made], pairs[2 * made + 1]);
+        }
+        Check.due("made()", court.made(), 300);
+        Check.throwsState("the 301st move", () -> court.move(6, 14));
+        Check.due("made() after a refused move", court.made(), 300);
+        Check.due("turn() after 300 moves", court.turn(), 0);
+        court.begin(63);
+        Check.due("made() in a new game", court.made(), 0);
+        HopperCourt passed = Games.at(9, Games.SHUT_IN);
+        passed.pass();
+        Check.due("made(), a pass counted", passed.made(), 81);
     }
 }

@@ -7,6 +7,11 @@ final class UndoTest {
         outsAreTakenBack();
         finishesAreTakenBack();
         aGameThatIsOverGoesOn();
+        whoWasOutBeforeStaysOut();
+        whoHadFinishedBeforeStaysSo();
+        turnsAreAsTheyWereWhateverThePatience();
+        nobodyFinishesByUndo();
+        theFirstAndTheLastMove();
         noneWasMade();
         Check.end();
     }
@@ -85,5 +90,79 @@ final class UndoTest {
         Games.play(court, 6, 14);
         Check.due("undo()", court.undo(), 0);
         Check.throwsState("undo() once more", court::undo);
+    }
+
+    /** Players 3 and 0 are out by one move, and 1 by a later one, which alone is undone. */
+    private static void whoWasOutBeforeStaysOut() {
+        HopperCourt court = Games.at(11, Games.EXCHANGED_AND_LEFT);
+        court.setPatience(10);
+        Games.play(court, 51, 50, 50, 51, 54, 44);
+        Check.due("isOut(1)", court.isOut(1), true);
+        Check.due("turn()", court.turn(), -1);
+        Check.due("undo()", court.undo(), 33);
+        Check.due("isOut(0), by an earlier move", court.isOut(0), true);
+        Check.due("isOut(1), by the undone move", court.isOut(1), false);
+        Check.due("isOut(3), by an earlier move", court.isOut(3), true);
+        Check.due("turn()", court.turn(), 1);
+        court.undo();
+        Check.due("undo()", court.undo(), 31);
+        Check.due("isOut(0), by an undone move", court.isOut(0), false);
+        Check.due("isOut(3), by an undone move", court.isOut(3), false);
+    }
+
+    private static void whoHadFinishedBeforeStaysSo() {
+        HopperCourt court = Games.at(11, Games.EXCHANGED);
+        court.undo();
+        court.undo();
+        court.setFill(1);
+        Games.play(court, 17, 9, 106, 114);
+        Check.due("finished(0)", court.finished(0), 3);
+        Check.due("finished(1)", court.finished(1), 0);
+        Check.due("undo()", court.undo(), 21);
+        Check.due("finished(0), by an earlier move", court.finished(0), 3);
+        Check.due("finished(1), by the undone move", court.finished(1), -1);
+        Check.due("turn()", court.turn(), 0);
+        Check.due("undo()", court.undo(), 20);
+        Check.due("finished(0), by an undone move", court.finished(0), -1);
+        Check.due("turn()", court.turn(), 3);
+    }
+
+    /** Both players have made more moves than the patience then tells. */
+    private static void turnsAreAsTheyWereWhateverThePatience() {
+        HopperCourt court = Games.at(9, new int[] {6, 14, 114, 106, 14, 6, 106, 114});
+        court.setPatience(1);
+        Check.due("undo()", court.undo(), 3);
+        Check.due("turn()", court.turn(), 3);
+        Check.due("undo()", court.undo(), 2);
+        Check.due("turn()", court.turn(), 0);
+        Check.due("isOut(0)", court.isOut(0), false);
+        Check.due("isOut(3)", court.isOut(3), false);
+    }
+
+    /** The goals of 0 and 3 are full, and one of ten is their own. */
+    private static void nobodyFinishesByUndo() {
+        HopperCourt court = Games.at(11, Games.EXCHANGED);
+        Games.play(court, 20, 18);
+        court.setFill(1);
+        court.undo();
+        Check.due("finished(0)", court.finished(0), -1);
+        Check.due("turn()", court.turn(), 1);
+    }
+
+    private static void theFirstAndTheLastMove() {
+        HopperCourt one = Games.at(9, new int[] {6, 14});
+        Check.due("undo() of the first move", one.undo(), 0);
+        Check.throwsState("undo() behind it", one::undo);
+        HopperCourt full = Games.at(63, Games.threeHundred());
+        for (int left = 299; left >= 100; left--) {
+            Check.due("undo()", full.undo(), left);
+        }
+        HopperCourt half = Games.at(63, Arrays.copyOf(Games.threeHundred(), 400));
+        for (int left = 199; left >= 0; left--) {
+            Check.due("undo()", half.undo(), left);
+        }
+        Check.throwsState("undo() when all are undone", half::undo);
+        Check.due("made()", half.made(), 0);
+        Check.due("turn()", half.turn(), 0);
     }
 }

@@ -3,6 +3,9 @@ final class WayTest {
     public static void main(String[] args) {
         waysOfKnownPositions();
         waysAreLeastPairings();
+        eachPlayersWayLeadsToTheCampAcross();
+        eachCellIsPairedWithOneMarble();
+        fromTheLongestWayToNone();
         whoDoesNotPlay();
         noSuchPlayer();
         Check.end();
@@ -62,5 +65,46 @@ final class WayTest {
                 Check.throwsBounds("way(" + player + ")", () -> court.way(player));
             }
         }
+    }
+
+    /** A move of a player changes its own way alone; camps 3, 4 and 5 have the goals 0, 1 and 2. */
+    private static void eachPlayersWayLeadsToTheCampAcross() {
+        HopperCourt court = Games.at(63, new int[0]);
+        for (int player = 0; player < 6; player++) {
+            for (int other = 0; other < 6; other++) {
+                int want = other < player ? 118 : 120;
+                Check.due("way(" + other + ") after " + player + " moves", court.way(other), want);
+            }
+            Games.play(court, court.bestFrom(), court.bestTo());
+        }
+    }
+
+    /** Were cells paired more than once, the marbles would all go to the nearest, in row 13. */
+    private static void eachCellIsPairedWithOneMarble() {
+        HopperCourt court = Games.at(9, new int[0]);
+        int nearest = 0;
+        for (int cell = 0; cell < 10; cell++) {
+            int least = 100;
+            for (int goal = 111; goal <= 120; goal++) {
+                least = Math.min(least, court.distance(cell, goal));
+            }
+            nearest += least;
+        }
+        Check.due("way(0)", court.way(0), 120);
+        Check.due("the sum to the nearest cells", nearest, 110);
+    }
+
+    private static void fromTheLongestWayToNone() {
+        HopperCourt court = Games.at(3, new int[0]);
+        for (int i = 0; i < 116; i++) {
+            court.move(court.bestFrom(), court.bestTo());
+        }
+        Check.due("way(1) with all marbles in the goal", court.way(1), 0);
+        Check.due("finished(0)", court.finished(0), 1);
+        Check.due("way(0), one who is not there yet", court.way(0) > 0, true);
+        Check.due("way(2), one who does not play", court.way(2), -1);
+        Check.due("way(5), one who does not play", court.way(5), -1);
+        Check.throwsBounds("way(6)", () -> court.way(6));
+        Check.throwsBounds("way(-1)", () -> court.way(-1));
     }
 }
