@@ -1,3 +1,5 @@
+import java.util.Arrays;
+
 /** Promise 2: begin. */
 final class BeginTest {
     public static void main(String[] args) {
@@ -17,6 +19,7 @@ final class BeginTest {
         oneCampIsTooFewTwoAreEnough();
         sixCampsAreAllASeventhIsNone();
         aGameThatIsOverIsBegunAgain();
+        noMovesOfTheOldGameCount();
         theFirstOnTurnIsNotOut();
         fillAndPatienceStay();
         Check.end();
@@ -124,6 +127,23 @@ final class BeginTest {
         Check.due("isOut(1)", court.isOut(1), false);
         Check.due("made()", court.made(), 0);
         Check.due("move(6, 14)", court.move(6, 14), 0);
+    }
+
+    /** Two moves of each of six players, then one and another one in a new game, with patience 2. */
+    private static void noMovesOfTheOldGameCount() {
+        HopperCourt court = Games.at(63, Arrays.copyOf(Games.threeHundred(), 24));
+        court.begin(63);
+        court.setPatience(2);
+        Games.play(court, Arrays.copyOf(Games.threeHundred(), 12));
+        for (int player = 0; player < 6; player++) {
+            Check.due("isOut(" + player + ") with one move", court.isOut(player), false);
+        }
+        Check.due("turn()", court.turn(), 0);
+        Games.play(court, Arrays.copyOfRange(Games.threeHundred(), 12, 24));
+        for (int player = 0; player < 6; player++) {
+            Check.due("isOut(" + player + ") with two moves", court.isOut(player), true);
+        }
+        Check.due("turn()", court.turn(), -1);
     }
 
     private static void theFirstOnTurnIsNotOut() {

@@ -6,6 +6,7 @@ final class CallsTest {
         threeHundredMovesAndTwoHundredUndone();
         movesAndUndoInTurns();
         manyGames();
+        eachQueryOnAndOn();
         manyBestMoves();
         manyChains();
         manyWays();
@@ -49,6 +50,33 @@ final class CallsTest {
         }
         Check.due("moves()", court.moves(), 14);
         Check.due("at(120), the call 512", court.at(120), 3);
+    }
+
+    /** A query changes nothing, so all calls behind the first move answer alike. */
+    private static void eachQueryOnAndOn() {
+        onAndOn("at(114)", court -> court.at(114), 3);
+        onAndOn("cellAt(8, 12)", court -> court.cellAt(8, 12), 60);
+        onAndOn("campOf(114)", court -> court.campOf(114), 3);
+        onAndOn("distance(0, 120)", court -> court.distance(0, 120), 16);
+        onAndOn("turn()", HopperCourt::turn, 3);
+        onAndOn("made()", HopperCourt::made, 1);
+        onAndOn("ends(114)", court -> court.ends(114), 2);
+        onAndOn("endAt(114, 1)", court -> court.endAt(114, 1), 106);
+        onAndOn("moves()", HopperCourt::moves, 14);
+        onAndOn("chainAt(115, 102, 0)", court -> court.chainAt(115, 102, 0), 102);
+        onAndOn("hops(115, 102)", court -> court.hops(115, 102), 1);
+        onAndOn("finished(0)", court -> court.finished(0), -1);
+        onAndOn("isOut(0)", court -> court.isOut(0) ? 1 : 0, 0);
+        onAndOn("way(0)", court -> court.way(0), 119);
+        onAndOn("bestFrom()", HopperCourt::bestFrom, 115);
+        onAndOn("bestTo()", HopperCourt::bestTo, 102);
+    }
+
+    private static void onAndOn(String name, RefusedTest.Action query, int want) {
+        HopperCourt court = Games.at(9, new int[] {6, 14});
+        for (int calls = 2; calls < MOST_CALLS; calls++) {
+            Check.due(name + ", the call " + (calls + 1), query.on(court), want);
+        }
     }
 
     private static void manyBestMoves() {
