@@ -11,6 +11,8 @@ public final class HopperCourt {
     private static final int ALL_CAMPS = 63;
     private static final int MOST_PATIENCE = 100;
     private static final int MOST_MOVES = 300;
+    /** More than any sum of distances, and small enough that distances can be added to it. */
+    private static final int NO_SUM = 1_000_000;
 
     private final Star star;
     private final Marbles marbles;
@@ -245,7 +247,7 @@ public final class HopperCourt {
         }
         pairing.weighAllButOne(player);
         int best = NONE;
-        int least = Integer.MAX_VALUE;
+        int least = NO_SUM;
         for (int marble = 0; marble < CAMP_CELLS; marble++) {
             int from = pairing.marbleCell(marble);
             reach.search(player, from);
@@ -553,7 +555,7 @@ public final class HopperCourt {
             sumFirst();
             sumLast();
             for (int i = 0; i < otherSums.length; i++) {
-                otherSums[i] = Integer.MAX_VALUE;
+                otherSums[i] = NO_SUM;
             }
             for (int set = 0; set < SETS - 1; set++) {
                 int marble = Integer.bitCount(set);
@@ -569,7 +571,7 @@ public final class HopperCourt {
 
         /** The way if the marble of that index lay on a cell. */
         int sumWith(int marble, int cell) {
-            int least = Integer.MAX_VALUE;
+            int least = NO_SUM;
             if (marble < 0 || marble >= CAMP_CELLS) {
                 return least;
             }
@@ -627,7 +629,7 @@ public final class HopperCourt {
 
         /** The least sum for a set when the marble takes one of its cells and the sums tell the rest. */
         private int leastWith(int[] sums, int set, int marble) {
-            int least = Integer.MAX_VALUE;
+            int least = NO_SUM;
             for (int goal = 0; goal < CAMP_CELLS; goal++) {
                 if ((set >> goal & 1) == 1) {
                     int rest = sums[set - (1 << goal)];

@@ -5,6 +5,7 @@ import java.lang.reflect.Method;
 import java.lang.reflect.Modifier;
 import java.nio.file.Files;
 import java.nio.file.Path;
+import java.util.ArrayList;
 import java.util.Arrays;
 import java.util.List;
 import java.util.TreeSet;
@@ -25,13 +26,18 @@ final class FaceTest {
     };
     private static final String[] NOT_IN_THE_TEXT = {
         "import ", "package ", "->", "::", "try {", "try (", "catch", "finally", "synchronized", "assert ",
-        "System.", "Thread", "Object ", "Exact(", "random", "static {"
+        "System.", "Thread", "Object ", "Exact(", "random", "static {", "MAX_VALUE", "MIN_VALUE"
     };
+    private static final int MOST_PARAMETERS = 7;
+    private static final int MOST_CLASSES = 12;
+    private static final int MOST_FIELDS = 20;
 
     public static void main(String[] args) throws IOException {
         methodsAreTheDocumentsOnes();
         nothingElseIsOpen();
         innerClassesAreStaticAndHidden();
+        noOtherMethodBearsAPublicName();
+        classesStaySmall();
         textKeepsToTheRules(Path.of("src/main/java/HopperCourt.java"));
         Check.end();
     }
@@ -44,6 +50,15 @@ final class FaceTest {
             }
         }
         Check.due("the methods", String.join("; ", got), String.join("; ", new TreeSet<>(List.of(FACE))));
+    }
+
+    /** The names of the calls of the document's face. */
+    static List<String> calls() {
+        List<String> names = new ArrayList<>();
+        for (String call : FACE) {
+            names.add(call.substring(call.indexOf(' ') + 1, call.indexOf('(')));
+        }
+        return names;
     }
 
     private static String describe(Method method) {
@@ -82,6 +97,43 @@ final class FaceTest {
                 if (Modifier.isStatic(field.getModifiers())) {
                     Check.due(field + " is final", Modifier.isFinal(field.getModifiers()), true);
                 }
+            }
+        }
+    }
+
+    private static List<Class<?>> allClasses() {
+        List<Class<?>> all = new ArrayList<>(List.of(HopperCourt.class.getDeclaredClasses()));
+        all.add(HopperCourt.class);
+        return all;
+    }
+
+    /** Rule 1, read for the classes inside too. */
+    private static void noOtherMethodBearsAPublicName() {
+        TreeSet<String> open = new TreeSet<>();
+        for (Method method : HopperCourt.class.getDeclaredMethods()) {
+            if (Modifier.isPublic(method.getModifiers())) {
+                Check.due(method.getName() + " is there once", open.add(method.getName()), true);
+            }
+        }
+        for (Class<?> type : allClasses()) {
+            for (Method method : type.getDeclaredMethods()) {
+                boolean isOfTheFace = type == HopperCourt.class && Modifier.isPublic(method.getModifiers());
+                Check.due(method + " bears a public name", open.contains(method.getName()), isOfTheFace);
+            }
+        }
+    }
+
+    /** Rule 11, as far as it can be counted here. */
+    private static void classesStaySmall() {
+        Check.due("at most so many classes", allClasses().size() <= MOST_CLASSES, true);
+        for (Class<?> type : allClasses()) {
+            int fields = 0;
+            for (Field field : type.getDeclaredFields()) {
+                fields += Modifier.isStatic(field.getModifiers()) ? 0 : 1;
+            }
+            Check.due(type + " has few fields", fields <= MOST_FIELDS, true);
+            for (Method method : type.getDeclaredMethods()) {
+                Check.due(method + " has few parameters", method.getParameterCount() <= MOST_PARAMETERS, true);
             }
         }
     }
